@@ -13,12 +13,12 @@ public final class SaddleFit {
     private static final int BILLION = 1000000000, HUNDRED = 100;
 
     private final Reader reader = new Reader();
-    private final Shop shop = new Shop();
     private final Shop draft = new Shop();
-    private final Load load = new Load();
-    private final Scale scale = new Scale(shop, load);
-    private final Fitting fitting = new Fitting(shop, load, scale);
-    private final Unloading unloading = new Unloading(shop, load, scale);
+    private final Scale scale = new Scale();
+    private final Shop shop = scale.shop;
+    private final Load load = scale.load;
+    private final Fitting fitting = new Fitting();
+    private final Unloading unloading = new Unloading();
     private final Past past = new Past();
     private final Feelings feelings = new Feelings();
     private final Book book = new Book();
@@ -31,7 +31,6 @@ public final class SaddleFit {
         for (int i = 0; i < images.length; i++) {
             images[i] = new Load();
         }
-        load.startOf(shop);
     }
 
     // ---- the shop
@@ -261,7 +260,7 @@ public final class SaddleFit {
         if (shop.backs < 1) {
             return NONE;
         }
-        fitting.layAlone();
+        fitting.layAlone(scale);
         return g == NONE ? fitting.least : fitting.bestBack[g];
     }
 
@@ -275,7 +274,7 @@ public final class SaddleFit {
         if (shop.backs < 2) {
             return NONE;
         }
-        fitting.layByTwo(g);
+        fitting.layByTwo(scale, g);
         return what == 0 ? fitting.least : fitting.bestPair;
     }
 
@@ -286,7 +285,7 @@ public final class SaddleFit {
         if (!within(what, 0, 1)) {
             return OUTSIDE;
         }
-        unloading.search(p);
+        unloading.search(scale, p);
         return what == 0 ? unloading.leastSore : unloading.bestFigures;
     }
 
@@ -651,6 +650,13 @@ public final class SaddleFit {
         final int[] other = new int[BURDENS_MOST];
         final int[] soreness = new int[BACKS_MOST];
 
+        Load() {
+            for (int g = 0; g < BURDENS_MOST; g++) {
+                first[g] = NONE;
+                other[g] = NONE;
+            }
+        }
+
         void startOf(Shop shop) {
             days = 0;
             stock = shop.flock;
@@ -755,13 +761,8 @@ public final class SaddleFit {
 
     /** How the load of a shop galls, now and on days to come. */
     private static final class Scale {
-        private final Shop shop;
-        private final Load load;
-
-        Scale(Shop shop, Load load) {
-            this.shop = shop;
-            this.load = load;
-        }
+        final Shop shop = new Shop();
+        final Load load = new Load();
 
         int carriedBy(int p) {
             int set = 0;
@@ -995,34 +996,28 @@ public final class SaddleFit {
         int least;
         int bestPair;
         final int[] bestBack = new int[BURDENS_MOST];
-        private final Shop shop;
-        private final Load load;
-        private final Scale scale;
         private final int[] parts = new int[BACKS_MOST];
         private final int[] triedBack = new int[BURDENS_MOST];
         private int triedPair;
 
-        Fitting(Shop shop, Load load, Scale scale) {
-            this.shop = shop;
-            this.load = load;
-            this.scale = scale;
+        void layAlone(Scale scale) {
+            begin();
+            lay(scale, 0, 0, NONE);
         }
 
-        void layAlone() {
+        void layByTwo(Scale scale, int g) {
             begin();
-            lay(0, 0, NONE);
-        }
-
-        void layByTwo(int g) {
-            begin();
-            int half = load.weight[g] / 2;
-            for (int p = 0; p < shop.backs; p++) {
-                for (int q = p + 1; q < shop.backs; q++) {
+            int weight = scale.load.weight[g];
+            int today = scale.load.days;
+            int backs = scale.shop.backs;
+            int half = weight / 2;
+            for (int p = 0; p < backs; p++) {
+                for (int q = p + 1; q < backs; q++) {
                     triedPair = 10 * p + q;
-                    int galling = putOn(p, load.weight[g] - half) + scale.rubOf(g, p, true, load.days)
-                            + putOn(q, half) + scale.rubOf(g, q, true, load.days);
-                    lay(0, galling, g);
-                    parts[p] -= load.weight[g] - half;
+                    int galling = putOn(scale, p, weight - half) + scale.rubOf(g, p, true, today)
+                            + putOn(scale, q, half) + scale.rubOf(g, q, true, today);
+                    lay(scale, 0, galling, g);
+                    parts[p] -= weight - half;
                     parts[q] -= half;
                 }
             }
@@ -1038,32 +1033,34 @@ public final class SaddleFit {
         }
 
         /** How much more the back galls by it. */
-        private int putOn(int p, int part) {
-            int galling = Math.max(0, parts[p] - shop.strength[p]);
+        private int putOn(Scale scale, int p, int part) {
+            int strength = scale.shop.strength[p];
+            int galling = Math.max(0, parts[p] - strength);
             parts[p] += part;
-            return Math.max(0, parts[p] - shop.strength[p]) - galling;
+            return Math.max(0, parts[p] - strength) - galling;
         }
 
         /** Burdens from g on, but for one that is laid; galling only grows, so what is no better is left. */
-        private void lay(int g, int galling, int laid) {
+        private void lay(Scale scale, int g, int galling, int laid) {
             if (galling >= least || g > BURDENS_MOST) {
                 return;
             }
-            if (g >= shop.burdens) {
+            if (g >= scale.shop.burdens) {
                 least = galling;
                 bestPair = triedPair;
                 System.arraycopy(triedBack, 0, bestBack, 0, BURDENS_MOST);
                 return;
             }
             if (g == laid) {
-                lay(g + 1, galling, laid);
+                lay(scale, g + 1, galling, laid);
                 return;
             }
-            for (int p = 0; p < shop.backs; p++) {
+            int weight = scale.load.weight[g];
+            for (int p = 0; p < scale.shop.backs; p++) {
                 triedBack[g] = p;
-                int more = putOn(p, load.weight[g]) + scale.rubOf(g, p, false, load.days);
-                lay(g + 1, galling + more, laid);
-                parts[p] -= load.weight[g];
+                int more = putOn(scale, p, weight) + scale.rubOf(g, p, false, scale.load.days);
+                lay(scale, g + 1, galling + more, laid);
+                parts[p] -= weight;
             }
         }
     }
@@ -1072,24 +1069,15 @@ public final class SaddleFit {
     private static final class Unloading {
         int leastSore;
         int bestFigures;
-        private final Shop shop;
-        private final Load load;
-        private final Scale scale;
 
-        Unloading(Shop shop, Load load, Scale scale) {
-            this.shop = shop;
-            this.load = load;
-            this.scale = scale;
-        }
-
-        void search(int p) {
+        void search(Scale scale, int p) {
             leastSore = Integer.MAX_VALUE;
             bestFigures = 0;
-            putDownNext(p, scale.carriedBy(p), load.soreness[p], 0, 0);
+            putDownNext(scale, p, scale.carriedBy(p), scale.load.soreness[p], 0, 0);
         }
 
         /** Orders come from the least on, so of like ones the first stays. */
-        private void putDownNext(int p, int set, int soreness, int figures, int behind) {
+        private void putDownNext(Scale scale, int p, int set, int soreness, int figures, int behind) {
             if (set == 0 || behind >= BURDENS_MOST) {
                 if (soreness < leastSore) {
                     leastSore = soreness;
@@ -1097,11 +1085,11 @@ public final class SaddleFit {
                 }
                 return;
             }
-            for (int g = 0; g < shop.burdens; g++) {
+            for (int g = 0; g < scale.shop.burdens; g++) {
                 if (has(set, g)) {
                     int rest = set & ~(1 << g);
-                    int then = scale.soreBehindDay(p, soreness, rest, load.days + behind);
-                    putDownNext(p, rest, then, figures * 10 + g + 1, behind + 1);
+                    int then = scale.soreBehindDay(p, soreness, rest, scale.load.days + behind);
+                    putDownNext(scale, p, rest, then, figures * 10 + g + 1, behind + 1);
                 }
             }
         }

@@ -1,0 +1,69 @@
+/** Promises 32 to 34: the seed, images. */
+public final class DrawsTest {
+    private static final int UNKNOWN = SaddleFit.UNKNOWN, OUTSIDE = SaddleFit.OUTSIDE, NOT = SaddleFit.NOT;
+
+    public static void main(String[] args) {
+        seed();
+        images();
+        Check.end("DrawsTest");
+    }
+
+    private static void seed() {
+        SaddleFit x = new SaddleFit();
+        Check.row("seed", new int[] {x.seed(5), x.seed(2147483647), x.seed(-1), x.seed(-2147483648), x.seed(0), x.seed(0)}, 0, 5, OUTSIDE, OUTSIDE, 2147483647, 0);
+        x = Check.shop("f0;b0 20 5;p10 0;");
+        x.seed(2147483647);
+        x.drift(60);
+        long seed = 2147483647L;
+        for (int i = 0; i < 180; i++) {
+            seed = (seed * 1103515245L + 12345L) % 2147483648L;
+        }
+        Check.due("180 draws", x.seed(0), (int) seed);
+    }
+
+    private static void images() {
+        SaddleFit x = Check.shop("f40;b0 20 5;b1 30 9;p10 0;p20 0;");
+        Check.row("refused", new int[] {x.keep(2), x.keep(-1), x.goBack(2), x.goBack(-1), x.goBack(0), x.goBack(1)}, UNKNOWN, UNKNOWN, UNKNOWN, UNKNOWN, NOT, NOT);
+        x.take(0, 0);
+        x.seed(11);
+        Check.due("keep(2) leaves what can be undone", x.keep(2), UNKNOWN);
+        Check.due("told(13)", x.told(13), 1);
+        Check.due("keep(0)", x.keep(0), 1);
+        Check.due("told(13)", x.told(13), 0);
+        Check.due("undo()", x.undo(), NOT);
+        String first = Check.all(x);
+        x.take(1, 1);
+        x.share(1, 0);
+        x.stuff(1, 8);
+        x.weigh(0, 3);
+        x.day(13);
+        x.seed(12);
+        Check.due("keep(1)", x.keep(1), 1);
+        String second = Check.all(x);
+        x.day(1);
+        Check.due("goBack(0)", x.goBack(0), 1);
+        Check.same("goBack(0)", first, Check.all(x));
+        Check.due("undo()", x.undo(), NOT);
+        x.drift(9);
+        Check.due("goBack(1)", x.goBack(1), 1);
+        Check.same("goBack(1)", second, Check.all(x));
+        x.day(9);
+        Check.due("goBack(0) again", x.goBack(0), 1);
+        Check.same("goBack(0) again", first, Check.all(x));
+        x.feel(1, 1, 1);
+        x.write(0, 0);
+        x.day(1);
+        String before = Check.all(x);
+        Check.due("goBack(2)", x.goBack(2), UNKNOWN);
+        Check.same("goBack(2)", before, Check.all(x));
+        x.goBack(0);
+        Check.row("what is felt stays", new int[] {x.told(11), x.told(12)}, 1, 1);
+        x.weigh(0, 44);
+        x.keep(0);
+        x.weigh(0, 45);
+        x.goBack(0);
+        Check.due("kept anew", x.burden(0, 1), 44);
+        SaddleFit y = Check.shop("f1;");
+        Check.due("an image is its object's own", y.goBack(0), NOT);
+    }
+}
