@@ -1,9 +1,10 @@
-/** Promises 32 to 34: the seed, images. */
+/** Promises 15 and 32 to 34: draws, the seed, images. */
 public final class DrawsTest {
     private static final int UNKNOWN = SaddleFit.UNKNOWN, OUTSIDE = SaddleFit.OUTSIDE, NOT = SaddleFit.NOT;
 
     public static void main(String[] args) {
         seed();
+        deeds();
         images();
         Check.end("DrawsTest");
     }
@@ -19,6 +20,50 @@ public final class DrawsTest {
             seed = (seed * 1103515245L + 12345L) % 2147483648L;
         }
         Check.due("180 draws", x.seed(0), (int) seed);
+    }
+
+    /** Each deed by draws from each of many seeds, on burdens that nobody, one and two carry. */
+    private static void deeds() {
+        boolean[] seen = new boolean[4];
+        for (int from = 0; from < 120; from++) {
+            SaddleFit x = Check.shop("f0;b0 1 0;b0 1 0;b0 1 0;b0 1 0;b0 1 0;p9 0;p9 0;p9 0;");
+            int[] first = {-1, 0, 0, 2, 1};
+            int[] other = {-1, -1, 1, 1, -1};
+            for (int g = 0; g < 5; g++) {
+                x.take(g, first[g]);
+                x.share(g, other[g]);
+            }
+            x.seed(from);
+            x.drift(1);
+            long seed = from;
+            int[] draws = {4, 5, 3};
+            for (int i = 0; i < 3; i++) {
+                seed = (seed * 1103515245L + 12345L) % 2147483648L;
+                draws[i] = (int) (seed / 65536 % draws[i]);
+            }
+            int g = draws[1];
+            int p = draws[2];
+            if (draws[0] == 0 && first[g] < 0) {
+                first[g] = p;
+                seen[0] = true;
+            } else if (draws[0] == 1 && first[g] >= 0 && other[g] < 0 && first[g] != p) {
+                other[g] = p;
+                seen[1] = true;
+            } else if (draws[0] == 2 && (first[g] == p || other[g] == p)) {
+                first[g] = first[g] == p ? other[g] : first[g];
+                other[g] = -1;
+                seen[2] = true;
+            } else {
+                seen[3] = true;
+            }
+            for (int k = 0; k < 5; k++) {
+                Check.row("burden " + k + " by draws from " + from, new int[] {x.burden(k, 4), x.burden(k, 5)}, first[k], other[k]);
+            }
+            Check.due("three draws", x.seed(0), (int) seed);
+        }
+        for (int deed = 0; deed < 4; deed++) {
+            Check.due("deed " + deed + " is drawn", seen[deed] ? 1 : 0, 1);
+        }
     }
 
     private static void images() {

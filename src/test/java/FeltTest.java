@@ -63,6 +63,14 @@ public final class FeltTest {
         // Weights to 59 with edge 20, and 60 with 19: strength 1 parts the most of them.
         Check.due("the least of like ones", x.tryNext(), 1);
         Check.due("nothing changes", x.told(11), 1);
+        x.tear();
+        x.feel(58, 0, 21);
+        Check.row("59 with 20, 60 with 19", new int[] {x.carries(0), x.tryNext()}, 2, 60);
+        x.tear();
+        x.feel(1, 0, 20);
+        Check.row("1 with 20 to 21 with 0", new int[] {x.carries(0), x.tryNext()}, 21, 21);
+        x.feel(3, 18, 2);
+        Check.row("1 with 20, 5 with 16", new int[] {x.carries(0), x.tryNext()}, 2, 2);
     }
 
     private static void book() {
@@ -88,6 +96,15 @@ public final class FeltTest {
         x.feel(1, 1, 1);
         Check.due("tear()", x.tear(), 16);
         Check.row("nothing is left", new int[] {x.told(11), x.told(12), x.judge(), x.carries(0), x.tear()}, 0, 0, NONE, 1260, 0);
+        x.hand(0, 0, 1);
+        x.day(1);
+        x.write(1, 19);
+        x.write(0, 0);
+        Check.due("each entry is of its own back", x.judge(), NONE);
+        x.write(0, 19);
+        Check.due("the other's is wrong", x.judge(), 2);
+        x.tear();
+        x.undo();
         for (int i = 0; i < 14; i++) {
             x.write(1, 0);
         }

@@ -53,9 +53,13 @@ public final class ShopTest {
     private static void shop() {
         SaddleFit x = Check.shop(FAIR);
         x.take(0, 0);
+        x.share(0, 2);
+        x.take(1, 1);
+        x.take(2, 0);
         x.stuff(0, 5);
         x.weigh(1, 7);
         x.day(3);
+        Check.row("there is much to be cleared", new int[] {x.back(0, 2), x.back(1, 2), x.back(2, 2)}, 21, 12, 0);
         x.feel(5, 5, 5);
         x.write(0, 1);
         x.seed(77);
@@ -246,6 +250,14 @@ public final class ShopTest {
         Check.due("back(-1, 9)", x.back(-1, 9), SaddleFit.UNKNOWN);
         Check.due("back(4, 8)", x.back(4, 8), SaddleFit.OUTSIDE);
         Check.due("back(4, -1)", x.back(4, -1), SaddleFit.OUTSIDE);
+        x = Check.shop("f0;b3 9 2;p9 0;");
+        x.take(0, 0);
+        Check.row("STUFF where parts are as great as strength", new int[] {x.back(0, 6), x.told(14)}, 2, 2);
+        x.day(3);
+        Check.row("STUFF against joy on day 3", new int[] {x.back(0, 6), x.told(14)}, -1, -1);
+        x.weigh(0, 10);
+        x.day(1);
+        Check.row("STUFF where parts are greater", new int[] {x.back(0, 6), x.told(14)}, -1, -1);
         x = Check.shop("f0;b1 1 0;b1 1 0;b1 1 0;b1 1 0;p1 0;p1 0;p1 0;p1 0;p1 0;");
         for (int g = 3; g >= 0; g--) {
             x.take(3 - g, g);

@@ -12,6 +12,7 @@ public final class TriedTest {
         could();
         shareOf();
         fair();
+        fullShop();
         nothingChanges();
         Check.end("TriedTest");
     }
@@ -113,6 +114,8 @@ public final class TriedTest {
         Check.row("byTwo(0)", new int[] {x.byTwo(0, 0), x.byTwo(0, 1)}, 4, 1);
         Check.row("byTwo(1)", new int[] {x.byTwo(1, 0), x.byTwo(1, 1)}, 5 + 15, 12);
         Check.row("refused", new int[] {x.byTwo(2, 2), x.byTwo(-1, 0), x.byTwo(0, 2), x.byTwo(0, -1)}, UNKNOWN, UNKNOWN, OUTSIDE, OUTSIDE);
+        x = Check.shop("f0;b1 31 5;b0 9 3;b0 60 1;p16 0;p15 0;p9 0;");
+        Check.row("all others are laid, too", new int[] {x.byTwo(0, 0), x.byTwo(0, 1)}, 2 + 2 + 3 + 1 + 60, 1);
         x = Check.shop("f0;b1 31 5;p15 0;p16 0;");
         Check.due("the lesser back is the first", x.byTwo(0, 0), 4 + 1);
         x = Check.shop("f0;b1 2 0;p1 0;p1 0;p1 0;p1 0;p1 0;");
@@ -184,6 +187,21 @@ public final class TriedTest {
         // Cut on each day: cut once at the end these would be 1 more.
         Check.row("fair", new int[] {x.fair(11, 33), x.fair(6, 99)}, 5053, 941480148);
         Check.row("refused", new int[] {x.fair(-1, 0), x.fair(61, 0), x.fair(0, -1), x.fair(0, 101)}, OUTSIDE, OUTSIDE, OUTSIDE, OUTSIDE);
+    }
+
+    private static void fullShop() {
+        SaddleFit x = Check.shop("f0;b0 10 0;b0 10 0;b0 10 0;b0 10 0;b0 10 0;b4 10 0;p10 0;p10 0;p10 0;p10 0;p20 0;");
+        Check.row("fit", new int[] {x.fit(-1), x.fit(0), x.fit(1), x.fit(2), x.fit(3), x.fit(4), x.fit(5)}, 0, 0, 1, 2, 3, 4, 4);
+        Check.row("byTwo of the last", new int[] {x.byTwo(5, 0), x.byTwo(5, 1), x.byTwo(0, 0), x.byTwo(0, 1)}, 5, 1, 5, 1);
+        Check.due("could", x.could(5), 31);
+        for (int g = 0; g < 6; g++) {
+            x.take(g, 4);
+        }
+        Check.row("could", new int[] {x.could(5), x.fit(6), x.byTwo(6, 0), x.could(6), x.when(5)}, NOT, UNKNOWN, UNKNOWN, UNKNOWN, UNKNOWN);
+        Check.row("all on the last", new int[] {x.worst(60, 0), x.worst(60, 1), x.when(4), x.sore(4, 2), x.back(4, 3)}, 0, 40, 1, 80, 40);
+        Check.row("order", new int[] {x.order(4, 0), x.order(4, 1)}, 30 + 20 + 10 - 3, 123456);
+        x.down(5, 4);
+        Check.due("could", x.could(5), 15);
     }
 
     private static void nothingChanges() {
