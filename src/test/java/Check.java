@@ -42,9 +42,14 @@ final class Check {
 
     /** All that can be told, to see that a refused call changed nothing. */
     static String all(SaddleFit x) {
+        return "letters " + x.told(2) + ", fault " + x.fault() + ", " + held(x);
+    }
+
+    /** All but the text and its fault. */
+    static String held(SaddleFit x) {
         StringBuilder all = new StringBuilder();
         for (int what = 0; what <= 14; what++) {
-            all.append(x.told(what)).append(' ');
+            all.append(what == 2 ? 0 : x.told(what)).append(' ');
         }
         for (int g = 0; g < x.told(0); g++) {
             for (int what = 0; what <= 5; what++) {
@@ -58,7 +63,7 @@ final class Check {
         }
         int seed = x.seed(0);
         x.seed(seed);
-        return all.append(x.fault()).append(' ').append(seed).append(' ').append(x.carries(0)).append(' ').append(x.judge()).toString();
+        return all.append(seed).append(' ').append(x.carries(0)).append(' ').append(x.judge()).toString();
     }
 
     static void same(String call, String before, String after) {

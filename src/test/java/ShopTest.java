@@ -66,9 +66,9 @@ public final class ShopTest {
         x.keep(0);
         x.day(1);
         Check.feed(x, "f1");
-        String before = Check.all(x).replaceFirst("^5 3 2 ", "5 3 0 ").replace(" -1 77 ", " 2 77 ");
+        String before = Check.held(x);
         Check.due("shop()", x.shop(), -11);
-        Check.same("a faulty shop()", before, Check.all(x));
+        Check.same("a faulty shop()", before, Check.held(x));
         Check.due("goBack(0) behind a fault", x.goBack(0), 1);
         x.day(1);
         Check.feed(x, FAIR);
@@ -77,7 +77,9 @@ public final class ShopTest {
         Check.due("goBack(0)", x.goBack(0), SaddleFit.NOT);
         Check.due("undo()", x.undo(), SaddleFit.NOT);
         Check.due("seed(77)", x.seed(77), 77);
-        Check.same("shop()", Check.all(Check.shop(FAIR)).replace(" -1 0 1260", " -1 77 1260"), Check.all(x));
+        SaddleFit fresh = Check.shop(FAIR);
+        fresh.seed(77);
+        Check.same("shop()", Check.all(fresh), Check.all(x));
         emptied(x, "");
         Check.feed(x, FAIR);
         x.shop();
