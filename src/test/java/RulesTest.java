@@ -22,6 +22,7 @@ public final class RulesTest {
         String source = Files.readString(Path.of("src/main/java/SaddleFit.java"));
         words(source);
         lengths(source);
+        madeOnce(source);
         Check.end("RulesTest");
     }
 
@@ -95,8 +96,12 @@ public final class RulesTest {
         }
     }
 
+    private static String withoutComments(String source) {
+        return source.replaceAll("(?s)/\\*.*?\\*/", " ").replaceAll("//[^\n]*", " ");
+    }
+
     private static void words(String source) {
-        String code = source.replaceAll("(?s)/\\*.*?\\*/", " ").replaceAll("//[^\n]*", " ");
+        String code = withoutComments(source);
         Pattern ruledOut = Pattern.compile("\\b(throw|throws|try|catch|synchronized|assert|import|package|yield|native|volatile|transient)\\b"
                 + "|->|::|\\bstatic\\s*\\{|\\w+Exact\\b|\\bnew\\s+\\w+\\s*\\([^)]*\\)\\s*\\{|\\b(System\\.(?!arraycopy)|Thread|Object|Random|hashCode|toString)");
         Matcher m = ruledOut.matcher(code);
@@ -124,6 +129,16 @@ public final class RulesTest {
                 if (end - i > 60) {
                     Check.fail("a method of " + (end - i) + " lines: " + lines[i].trim());
                 }
+            }
+        }
+    }
+
+    /** All calls of a run live in one room: objects and rows are made with the object, no call makes one. */
+    private static void madeOnce(String source) {
+        Pattern made = Pattern.compile("^ {4,8}(private )?final [\\w\\[\\]]+ \\w+ = new .*;$|^ +(images|loads)\\[i\\] = new Load\\(\\);$");
+        for (String line : withoutComments(source).split("\n")) {
+            if (line.matches(".*(\\bnew |\\.clone\\(|\\bcopyOf).*") && !made.matcher(line).find()) {
+                Check.fail("a call makes an object: " + line.trim());
             }
         }
     }

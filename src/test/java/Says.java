@@ -124,7 +124,7 @@ final class Says {
         return all;
     }
 
-    private static int number(String word) {
+    static int number(String word) {
         switch (word) {
             case "NONE": return -1;
             case "UNKNOWN": return -1000000001;

@@ -32,16 +32,17 @@ public final class SentencesTest {
         Check.end("SentencesTest");
     }
 
-    /** From the terms to the last promise, without what only sets it out. */
+    /** From what an object is used for to the last promise, without what only sets it out, and the face, which RulesTest has. */
     private static String document() throws IOException {
         String all = Files.readString(DOCUMENT);
-        int from = all.indexOf("## Terms");
+        int from = all.indexOf("An object is used");
         int to = all.indexOf("## Not promised");
         if (from < 0 || to < from) {
             Check.fail("the document has no terms and promises");
             return "";
         }
-        return all.substring(from, to).replaceAll("(?m)^#.*$", "").replaceAll("(?m)^```.*$", "").replaceAll("======== \\d", "").replace("`", "").replaceAll("\\s+", " ");
+        String promised = all.substring(from, to).replaceAll("(?s)```java.*?```", "");
+        return promised.replaceAll("(?m)^#.*$", "").replaceAll("(?m)^```.*$", "").replaceAll("======== \\d", "").replace("`", "").replaceAll("\\s+", " ");
     }
 
     private static void quotations(String document) throws IOException {

@@ -20,6 +20,7 @@ public final class TermsTest {
             + "hand(0, 1, 2) hand(3, 0, 1) hand(2, 2, 1) hand(2, 1, 2) hand(2, 0, 1) stuff(0, -6) stuff(0, 26) stuff(3, -1) stuff(3, 13) stuff(3, 30) could(0) could(1) could(2)";
 
     public static void main(String[] args) {
+        calls();
         cuts();
         numbered();
         sets();
@@ -34,6 +35,19 @@ public final class TermsTest {
         billion();
         Says.nothingUntested();
         Check.end("TermsTest");
+    }
+
+    /** The last call that is promised, the 512th, answers as any other. */
+    private static void calls() {
+        Says.says("An object is used for at most 512 calls after it has been made; what later calls answer is free.");
+        String text = "f9;b0 9 4;b3 8 2;p9 0;p5 1;";
+        SaddleFit x = Check.shop(text);
+        int last = 0;
+        for (int call = text.length() + 2; call <= 506; call++) {
+            last = x.weigh(0, call % 60 + 1);
+        }
+        Says.so("the 506th call", last == 505 % 60 + 1);
+        Says.ask(x, "take(0, 1) = 26  day(1) = 2  told(13) = 16  undo() = 15  burden(0, 1) = 27  fit(NONE) = 27");
     }
 
     private static void cuts() {
