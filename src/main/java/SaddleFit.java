@@ -11,6 +11,7 @@ public final class SaddleFit {
     private static final int UNDONE_MOST = 16, FELT_MOST = 6, BOOK_MOST = 15, IMAGES = 2;
     private static final int GALLING_FELT_MOST = 99, TRIED_STRENGTHS = 60;
     private static final int BILLION = 1000000000, HUNDRED = 100;
+    private static final int ABOVE_ALL = 2147483647;
 
     private final Reader reader = new Reader();
     private final Shop draft = new Shop();
@@ -1024,7 +1025,7 @@ public final class SaddleFit {
         }
 
         private void begin() {
-            least = Integer.MAX_VALUE;
+            least = ABOVE_ALL;
             bestPair = NONE;
             triedPair = NONE;
             for (int p = 0; p < BACKS_MOST; p++) {
@@ -1071,7 +1072,7 @@ public final class SaddleFit {
         int bestFigures;
 
         void search(Scale scale, int p) {
-            leastSore = Integer.MAX_VALUE;
+            leastSore = ABOVE_ALL;
             bestFigures = 0;
             putDownNext(scale, p, scale.carriedBy(p), scale.load.soreness[p], 0, 0);
         }

@@ -21,6 +21,7 @@ public final class RulesTest {
         members();
         String source = Files.readString(Path.of("src/main/java/SaddleFit.java"));
         words(source);
+        library(source);
         lengths(source);
         madeOnce(source);
         Check.end("RulesTest");
@@ -111,6 +112,17 @@ public final class RulesTest {
         for (int i = 0; i < source.length(); i++) {
             if (source.charAt(i) > 126) {
                 Check.fail("a sign of number " + (int) source.charAt(i));
+            }
+        }
+    }
+
+    /** Rule 4 names functions, and none of the library's constants. */
+    private static void library(String source) {
+        Matcher m = Pattern.compile("\\b(?!SaddleFit\\b)([A-Z][a-z]\\w*)\\.(\\w+)(\\()?").matcher(withoutComments(source));
+        while (m.find()) {
+            if (!(m.group(1) + "." + m.group(2)).matches("Math\\.(max|min|abs|floorDiv|floorMod)|System\\.arraycopy|(Integer|Long)\\.(compare|max|min|bitCount)|Arrays\\.(copyOf|copyOfRange|fill)")
+                    || m.group(3) == null) {
+                Check.fail("the class uses " + m.group());
             }
         }
     }
